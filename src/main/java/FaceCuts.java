@@ -1979,8 +1979,9 @@ public final class FaceCuts {
             }
         }
 
+        /* A row with a place for each weight, all 0. */
         int[] clearedTally() {
-            Arrays.fill(tally, 0);
+            Arrays.fill(tally, 0, 2 * MOST_GAIN + 1, 0);
             return tally;
         }
 

@@ -197,6 +197,11 @@ public final class PromisesTest {
         due("sixteen links", Nets.of(full).count(1), 16);
         fault(full + "link ?", 4, 21 + 16 * 17);
         due("all sixteen round", Nets.of(full + "round 0 15 14 13 12 11 10 9 8 7 6 5 4 3 2 1 0;").round(0, 15), 0);
+        fault(full + "round 0 15 14 13 12 11 10 9 8 7 6 5 4 3 2 1 0 0;", 3, 21 + 16 * 17 + 46);
+        FaceCuts x = Nets.of(full + "weighs:warm;");
+        Nets.tray(x, 0, 15105);
+        due("warms: the last link", x.warms(0), 32);
+        due("ask: of sixteen", x.ask(0), 0);
         due("to the last byte", Nets.of(full + " ".repeat(900 - full.length())).count(8), 19);
     }
 
@@ -213,6 +218,11 @@ public final class PromisesTest {
         due("side by side is not within", Nets.of(head + "weighs:" + "(1)+".repeat(20) + "(1);").weight(0), 21);
         due("a not ends with its unit", Nets.of(head + "counts:not 1=2" + " and not 1=2".repeat(8) + ";").weight(0), 1);
         fault(head + "counts:((((((1+[", 2, 53);
+        fault(head + "counts:[[[[[[1=1 and not 1=1", 4, 59);
+        fault(head + "counts:[[[[[[1=1 or [1=1", 4, 58);
+        fault(head + "weighs:((((((1*(", 4, 53);
+        fault(head + "weighs:((((((1+if", 4, 53);
+        fault(head + "counts:[[[[[[1=(", 4, 53);
     }
 
     private static int law(String law) {
@@ -661,6 +671,13 @@ public final class PromisesTest {
         }
         Nets.tray(x, 0, 1, 199);
         due("warms: the bounds", x.warms(0), 0);
+        x = Nets.of("net warm 0;node;node;link 0 1 gains 99;link 0 1 loses 99;link 0 1 gains 99;");
+        Nets.tray(x, 0, 199, 1001);
+        due("warms: all, by the most and the least weight", x.warms(0), 1023);
+        due("ask: all alike", x.ask(0), 0);
+        x = Nets.of("net warm 0;node;node;link 0 1 gains 99;link 0 1 gains 99;weighs:if link=0 or warm<8 then 99 else 98 end;");
+        Nets.tray(x, 0, 199);
+        due("ask: by the most weights", x.ask(0), 1);
     }
 
     private static void chances() {
@@ -671,6 +688,7 @@ public final class PromisesTest {
         due("chance: no lots", x.chance(0, 0, 0), 1);
         due("chance: no lots", x.chance(1, 0, 0), 0);
         due("chance: sure", x.chance(-9999, 4, 1), 1);
+        due("chance: the greatest k", x.chance(9999, 0, 0), 0);
         due("chance: k", x.chance(10000, 0, 0), -3);
         due("chance: k", x.chance(-10000, 0, 0), -3);
         due("chance: n", x.chance(0, 5, 0), -3);
