@@ -12,6 +12,8 @@ public final class AgainstSlowTest {
     /* An object is used for 512 calls at most. */
     private static final int MOST_CALLS = 440;
 
+    private static final int[] EDGES = {Integer.MIN_VALUE, -1, 0, 1, 9, 10, Integer.MAX_VALUE};
+
     private final Random draw;
     private final NetMaker maker;
     private final FaceCuts fast = new FaceCuts();
@@ -38,6 +40,13 @@ public final class AgainstSlowTest {
         for (long seed = first; seed < first + runs; seed++) {
             AgainstSlowTest run = new AgainstSlowTest(seed);
             flat += run.play(methods, seed);
+        }
+        for (String net : new String[] {"", Nets.TRIANGLE, Nets.TWISTED, Nets.WHEEL, Nets.SIXTEEN_LINKS, Nets.ringOfSixteen(-7)}) {
+            for (Method m : methods) {
+                if (!m.getName().equals("feed")) {
+                    new AgainstSlowTest(first).playEdges(methods, net, m);
+                }
+            }
         }
         Nets.due("many runs are of a flat net with several odd faces, of " + flat, flat * 8 > runs ? 1 : 0, 1);
         Nets.end();
@@ -72,6 +81,34 @@ public final class AgainstSlowTest {
             Nets.due("run " + seed + ": proof", fast.proof(0) - fast.proof(1), fast.greatest(0));
         }
         return flat;
+    }
+
+    /** One method by all edges of all its arguments, one behind the other. */
+    private void playEdges(List<Method> methods, String net, Method m) throws Exception {
+        tell(methods, net);
+        for (int[] tray : new int[][] {{0, 0, 3}, {1, 3, 0}, {2, 2, 40}}) {
+            fast.numbers(tray[0], tray[1], tray[2]);
+            slow.numbers(tray[0], tray[1], tray[2]);
+        }
+        fast.image(1);
+        slow.image(1);
+        int all = 1;
+        for (int k = 0; k < m.getParameterCount(); k++) {
+            all *= EDGES.length;
+        }
+        for (int i = 0; i < all; i++) {
+            Object[] args = new Object[m.getParameterCount()];
+            int rest = i;
+            for (int k = 0; k < args.length; k++) {
+                int edge = EDGES[rest % EDGES.length];
+                args[k] = m.getParameterTypes()[k] == long.class ? (Object) (long) edge : (Object) edge;
+                rest /= EDGES.length;
+            }
+            if (!same(m, args)) {
+                System.out.println("  of " + told);
+                return;
+            }
+        }
     }
 
     private void tell(List<Method> methods, String text) throws Exception {

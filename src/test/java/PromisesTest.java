@@ -1,10 +1,7 @@
 /** Each promise of the document by hand: ordinary inputs, the edges that it names, wrong inputs. */
 public final class PromisesTest {
-    private static final String TRIANGLE =
-        "net warm 3; node; node; node; link 0 1 gains 5; link 1 2 gains 3; link 2 0 gains 4;";
-    /* Links 3 and 4 cross round node 0: not flat. */
-    private static final String TWISTED =
-        "net warm 2; node; node; node; node; link 0 1 gains 10; link 1 2 loses 4; link 2 3 gains 7; link 3 0 gains 2; link 0 2 gains 3;";
+    private static final String TRIANGLE = Nets.TRIANGLE;
+    private static final String TWISTED = Nets.TWISTED;
     private static final int OFF = -99000000;
     private static final int LOW = Integer.MIN_VALUE;
     private static final int HIGH = Integer.MAX_VALUE;
@@ -46,19 +43,6 @@ public final class PromisesTest {
         images();
         count();
         Nets.end();
-    }
-
-    /** Two nodes, and links that gain (lose, below 0) so much, so that each face lies between two links in a row. */
-    private static String ring(int... gains) {
-        StringBuilder s = new StringBuilder("net warm 0;node;node;");
-        for (int g : gains) {
-            s.append("link 0 1 ").append(g < 0 ? "loses " : "gains ").append(Math.abs(g)).append(';');
-        }
-        s.append("round 1");
-        for (int l = gains.length - 1; l >= 0; l--) {
-            s.append(' ').append(l);
-        }
-        return s.append(';').toString();
     }
 
     private static void newObject() {
@@ -489,7 +473,7 @@ public final class PromisesTest {
         due("twists: bare nodes", x.twists(), 0);
         due("odd", x.odd(), 0);
         due("twists", Nets.of(TWISTED).twists(), 1);
-        due("odd: by weights above 0", Nets.of(ring(1, 0, -1, 1)).odd(), 0b1010);
+        due("odd: by weights above 0", Nets.of(Nets.ring(1, 0, -1, 1)).odd(), 0b1010);
         String dense = "net warm 0;node;node;" + "link 0 1 gains 1;".repeat(16);
         due("twists: many", Nets.of(dense).twists(), 7);
         due("faces of these", Nets.of(dense).faces(), 2);
@@ -498,7 +482,7 @@ public final class PromisesTest {
     }
 
     private static void ways() {
-        FaceCuts x = Nets.of(ring(3, -1, 2, 0));
+        FaceCuts x = Nets.of(Nets.ring(3, -1, 2, 0));
         // Face f lies between the links f and f - 1, face 0 between 0 and 3: 3 either way round.
         due("far", x.far(0, 1), 3);
         due("across: the fewest links", x.across(0, 1, 0), 0);
@@ -514,7 +498,7 @@ public final class PromisesTest {
         due("across: no face", x.across(0, 4, -1), -2);
         due("across: below 0", x.across(0, 1, -1), -3);
         due("across: not so many", x.across(0, 1, HIGH), -1);
-        x = Nets.of(ring(1, 1, 1, 1));
+        x = Nets.of(Nets.ring(1, 1, 1, 1));
         due("across: of like ones the least first", x.across(0, 2, 0), 0);
         due("across: then on", x.across(0, 2, 1), 1);
         due("across: back another way", x.across(2, 0, 0), 1);
@@ -522,8 +506,8 @@ public final class PromisesTest {
         due("far: no way", two.far(0, 1), -1);
         due("across: no way", two.across(0, 1, 0), -1);
         due("across: no way, below 0", two.across(0, 1, -1), -3);
-        FaceCuts twice = Nets.of(ring(5, 5, 5));
-        due("across: the least of links side by side", Nets.of(ring(5, 5)).across(0, 1, 0), 0);
+        FaceCuts twice = Nets.of(Nets.ring(5, 5, 5));
+        due("across: the least of links side by side", Nets.of(Nets.ring(5, 5)).across(0, 1, 0), 0);
         due("far where three meet", twice.far(0, 2), 5);
         due("far where it isn't flat", Nets.of(TWISTED).far(0, 0), 0);
     }
@@ -544,11 +528,11 @@ public final class PromisesTest {
         due("join: not flat", x.join(), -5);
         due("proof: not flat", x.proof(1), -5);
         due("proof: what, not flat", x.proof(2), -2);
-        x = Nets.of(ring(1, 1, 1, 1));
+        x = Nets.of(Nets.ring(1, 1, 1, 1));
         due("partner: not odd", x.partner(0), -1);
         due("join: none", x.join(), 0);
         // Four odd faces in a ring of four: both pairings weigh 2, the first face takes the lesser partner.
-        x = Nets.of(ring(1, -1, 1, -1));
+        x = Nets.of(Nets.ring(1, -1, 1, -1));
         due("all odd", x.odd(), 15);
         due("partner: the least of like ones", x.partner(0), 1);
         due("partner: then on", x.partner(2), 3);
@@ -559,7 +543,7 @@ public final class PromisesTest {
         for (int i = 0; i < 16; i++) {
             gains[i] = i % 2 == 0 ? 99 : -98;
         }
-        FaceCuts x = Nets.of(ring(gains));
+        FaceCuts x = Nets.of(Nets.ring(gains));
         due("sixteen odd faces", x.odd(), 65535);
         due("sixteen: greatest", x.greatest(0), 8);
         due("sixteen: all", x.all(0), 8);
