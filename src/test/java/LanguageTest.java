@@ -20,6 +20,10 @@ public final class LanguageTest {
         + "perform1 day2 faces0 face2 dart2 parts0 twists0 odd0 far2 across3 partner1 join0 proof1 greatest1 least1 worth0 gain1 all1 "
         + "best0 stuck0 steps0 climb0 longest0 warms1 ask1 chance3 mean2 numbers3 write3 lists2 image1 restore1 count1";
 
+    private static final Set<String> LIBRARY = Set.of("java.lang.Object.\"<init>\"", "java.lang.System.arraycopy", "java.util.Arrays.fill",
+        "java.lang.String.charAt", "java.lang.String.indexOf", "java.lang.String.length");
+    private static final int DEEPEST = 8;
+
     private LanguageTest() {
     }
 
@@ -29,6 +33,7 @@ public final class LanguageTest {
         classes();
         words(source.replaceAll("(?s)/\\*.*?\\*/", "").replaceAll("//[^\n]*", "").replaceAll("\"[^\"\n]*\"", "\"\""));
         methodLengths(source);
+        Bytecode.of(all()).ifPresentOrElse(LanguageTest::steps, () -> System.out.println("no javap here: steps not looked at"));
         Nets.end();
     }
 
@@ -119,5 +124,19 @@ public final class LanguageTest {
                 Nets.due("sixty lines at most from line " + (i + 1), end - i <= 60 ? 1 : 0, 1);
             }
         }
+    }
+
+    /** Rules 4, 6, 11, 12, in the compiled steps. */
+    private static void steps(Bytecode code) {
+        Nets.due("methods were read", code.ownCalls.size() > 100 ? 1 : 0, 1);
+        for (String method : code.ownCalls.keySet()) {
+            Nets.due("calls go at most eight deep: " + method, code.depth(method) <= DEEPEST ? 1 : 0, 1);
+        }
+        for (String called : code.libraryCalls) {
+            boolean fine = LIBRARY.contains(called) || called.matches("java\\.lang\\.(Math|Integer|Long)\\.(?!.*Exact)\\w+");
+            Nets.due("the library: " + called, fine ? 1 : 0, 1);
+        }
+        Nets.due("objects made by calls: " + code.makers, code.makers.size(), 0);
+        Nets.due("thrown, caught or locked: " + code.bannedIn, code.bannedIn.size(), 0);
     }
 }
